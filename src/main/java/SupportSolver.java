@@ -869,16 +869,20 @@ public final class SupportSolver {
         @Override
         int verdict(long domains) {
             int verdict = ALWAYS;
+            int needed = 0;
+            int room = 0;
             for (int value = 0; value < VALUES && verdict != NEVER; value++) {
-                if (hasCount(value)) {
-                    long having = Pairs.ZEROS << value & scope;
-                    int most = Long.bitCount(domains & having);
-                    int fewest = size - Pairs.variablesIn(domains & scope & ~having);
-                    int bounds = verdictOn(fewest, most, least >>> 3 * value & 7, greatest >>> 3 * value & 7);
-                    verdict = Math.min(verdict, bounds);
-                }
+                long having = Pairs.ZEROS << value & scope;
+                int most = Long.bitCount(domains & having);
+                int fewest = size - Pairs.variablesIn(domains & scope & ~having);
+                int from = least >>> 3 * value & 7;
+                int to = greatest >>> 3 * value & 7;
+                verdict = Math.min(verdict, verdictOn(fewest, most, from, to));
+                needed += Math.max(fewest, from);
+                room += Math.min(most, to);
             }
-            return verdict;
+            // Each variable has one value: without this, searches would go on long where too many are needed.
+            return needed > size || room < size ? NEVER : verdict;
         }
     }
 

@@ -773,6 +773,9 @@ public final class SupportSolver {
         /** Whether never, for some or always an assignment fulfils this; each domain has a value. */
         abstract int verdict(long domains);
 
+        /** The values that this does not tell from the given one, as a bit set. */
+        abstract int alike(int value);
+
         final void addVariable(int variable) {
             if (size < MAX_VARIABLES) {
                 order |= variable << 3 * size;
@@ -804,7 +807,7 @@ public final class SupportSolver {
         }
 
         /** The lexicographically first assignment that fulfils it, the variables before the position being fixed. */
-        static long leastFrom(Constraint it, long domains, int position) {
+        private static long leastFrom(Constraint it, long domains, int position) {
             int verdict = it.verdict(domains);
             if (verdict == NEVER) {
                 return NO_SUPPORT;
@@ -814,19 +817,21 @@ public final class SupportSolver {
                 return Long.bitCount(least) == it.size ? least : NO_SUPPORT;
             }
             int variable = it.variableAt(position);
+            int left = Pairs.valuesOf(domains, variable);
             for (int value = 0; value < VALUES; value++) {
-                if (Pairs.has(domains, variable, value)) {
+                if ((left >>> value & 1) != 0) {
                     long least = leastFrom(it, Pairs.narrowed(domains, variable, value), position + 1);
                     if (least != NO_SUPPORT) {
                         return least;
                     }
+                    left &= ~it.alike(value);
                 }
             }
             return NO_SUPPORT;
         }
 
         /** The number of assignments that fulfil it, the variables before the position being fixed. */
-        static int countFrom(Constraint it, long domains, int position) {
+        private static int countFrom(Constraint it, long domains, int position) {
             int verdict = it.verdict(domains);
             if (verdict == NEVER) {
                 return 0;
@@ -835,10 +840,14 @@ public final class SupportSolver {
                 return Pairs.assignments(domains, it.scope);
             }
             int variable = it.variableAt(position);
+            int left = Pairs.valuesOf(domains, variable);
             int count = 0;
             for (int value = 0; value < VALUES; value++) {
-                if (Pairs.has(domains, variable, value)) {
-                    count += countFrom(it, Pairs.narrowed(domains, variable, value), position + 1);
+                if ((left >>> value & 1) != 0) {
+                    int alike = left & it.alike(value);
+                    long narrowed = Pairs.narrowed(domains, variable, value);
+                    count += Integer.bitCount(alike) * countFrom(it, narrowed, position + 1);
+                    left &= ~alike;
                 }
             }
             return count;
@@ -849,7 +858,7 @@ public final class SupportSolver {
     private static final class Counts extends Constraint {
         /** The bounds of each value, each in 3 bits; a value that is not counted has the widest ones. */
         private int least = 0;
-        private int greatest = 077777;
+        private int greatest = 0x7fff;
         private int counted = 0;
 
         Counts() {
@@ -884,6 +893,11 @@ public final class SupportSolver {
             // Each variable has one value: without this, searches would go on long where too many are needed.
             return needed > size || room < size ? NEVER : verdict;
         }
+
+        @Override
+        int alike(int value) {
+            return hasCount(value) ? 1 << value : Pairs.ALL_VALUES & ~counted;
+        }
     }
 
     /** How many of some successive variables have a value of a set. */
@@ -916,6 +930,11 @@ public final class SupportSolver {
             }
             return verdict;
         }
+
+        @Override
+        int alike(int value) {
+            return (set >>> value & 1) != 0 ? set : Pairs.ALL_VALUES & ~set;
+        }
     }
 
     /** The first value is less than the second one, or the two are different. */
@@ -935,6 +954,11 @@ public final class SupportSolver {
                 return ALWAYS;
             }
             return left == right && Integer.bitCount(left) == 1 ? NEVER : OPEN;
+        }
+
+        @Override
+        int alike(int value) {
+            return 1 << value;
         }
 
         private static int verdictOnLess(int left, int right) {
@@ -972,10 +996,18 @@ public final class SupportSolver {
             }
             return (domains & scope) == set ? NEVER : OPEN;
         }
+
+        @Override
+        int alike(int value) {
+            return 1 << value;
+        }
     }
 
     /** The variables with their initial domains, and the constraints. */
     private static final class Problem {
+        /** The answer of openScope() if the constraints are never all fulfilled. */
+        static final long NO_WAY = -1;
+
         private final Constraint[] rows = new Constraint[MAX_CONSTRAINTS];
         int variables = 0;
         int constraints = 0;
@@ -1000,16 +1032,19 @@ public final class SupportSolver {
             return number >= 0 && number < constraints && number < rows.length ? rows[number] : null;
         }
 
-        /** The verdict on all constraints together. */
-        int verdict(long domains) {
-            int verdict = ALWAYS;
-            for (int i = 0; i < constraints && verdict != NEVER; i++) {
+        /** All pairs of the variables on which it depends whether all constraints are fulfilled, or NO_WAY. */
+        long openScope(long domains) {
+            long open = 0;
+            for (int i = 0; i < constraints && open != NO_WAY; i++) {
                 Constraint it = constraintAt(i);
-                if (it != null) {
-                    verdict = Math.min(verdict, it.verdict(domains));
+                int verdict = it == null ? ALWAYS : it.verdict(domains);
+                if (verdict == NEVER) {
+                    open = NO_WAY;
+                } else if (verdict == OPEN && it != null) {
+                    open |= it.scope;
                 }
             }
-            return verdict;
+            return open;
         }
     }
 
@@ -1035,19 +1070,23 @@ public final class SupportSolver {
             addFrom(this, problem, present, 0);
         }
 
-        /** Adds the solutions with values of the domains, the variables before the given one being fixed. */
+        /** Adds the solutions with values of the domains; nothing depends on the variables before the given one. */
         private static void addFrom(Solutions found, Problem problem, long domains, int variable) {
-            int verdict = problem.verdict(domains);
-            if (verdict == NEVER) {
+            long open = problem.openScope(domains);
+            if (open == Problem.NO_WAY) {
                 return;
             }
-            if (verdict == ALWAYS || variable >= problem.variables) {
+            int next = variable;
+            while (next < problem.variables && (open & Pairs.allOf(next)) == 0) {
+                next++;
+            }
+            if (next >= problem.variables) {
                 found.addAll(domains, Pairs.assignments(domains, problem.initial));
                 return;
             }
             for (int value = 0; value < VALUES; value++) {
-                if (Pairs.has(domains, variable, value)) {
-                    addFrom(found, problem, Pairs.narrowed(domains, variable, value), variable + 1);
+                if (Pairs.has(domains, next, value)) {
+                    addFrom(found, problem, Pairs.narrowed(domains, next, value), next + 1);
                 }
             }
         }

@@ -136,8 +136,8 @@ public final class RandomRunsTest {
         for (int i = 0; kind == 0 && i < 1 + first % 4; i++) {
             int least = below(3) == 0 ? 1 + below(2) : 0;
             int greatest = Math.min(7, least + below(4));
-            text.append(blank()).append("value ").append((first + i) % 5).append(blank()).append(below(9) == 0 ? "0" : "");
-            text.append(least).append(blank()).append(greatest);
+            text.append(blank()).append("value ").append((first + i) % 5).append(blank());
+            text.append(below(9) == 0 ? "0" : "").append(least).append(blank()).append(greatest);
         }
         text.append(';');
     }

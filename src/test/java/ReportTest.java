@@ -159,6 +159,13 @@ public final class ReportTest {
         counts.decide(1, 1);
         // c = 1 goes with b = 1 or b = 0 alike, so b's lost 0 is left out, and so is a's lost 1, but not a's lost 2.
         explanation(counts, 5, 1, 4);
+        SupportSolver crowd = Check.solver("var a 0 2;var b 0 2;var c 0 2;var d 2 4;"
+                + "counts a b c d value 0 0 1 value 1 0 1;");
+        crowd.forbid(3, 4);
+        crowd.forbid(0, 2);
+        Check.is("a and b take 0 and 1 from c", crowd.forbid(1, 2), 3);
+        explanation(crowd, 3, 1, 2);
+        explanation(crowd, 4, 1, 2);
     }
 
     private static void explanation(SupportSolver solver, int index, int... due) {
@@ -183,6 +190,9 @@ public final class ReportTest {
         explanation(solver, 5, 2, 4);
         Check.isThrown("depth 6", Check.INDEX, () -> solver.depth(6));
         Check.isThrown("depth -1", Check.INDEX, () -> solver.depth(-1));
+        SupportSolver two = Check.solver("var a 0 1;var b 0 1;differ a b;");
+        two.decide(0, 0);
+        Check.is("depth above the first fact", two.depth(1), 1);
         SupportSolver chain = Check.solver("var a 0 4;var b 0 4;var c 0 4;var d 0 4;less a b;less b c;less c d;");
         int deepest = 0;
         for (int i = 0; i < chain.report(3); i++) {

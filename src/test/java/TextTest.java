@@ -145,10 +145,30 @@ public final class TextTest {
         right(EIGHT_RULES + " \n", 2, 8);
         right(TWO + "window 4 31 0 4 a;window 1 1 1 1 b a;window 04 01 04 04 a b;", 2, 3);
         right(TWO + "differ b a;differ a b;", 2, 2);
+        right("var vbr 0 1;var walue 0 1;counts vbr walue value 0 0 1;less vbr walue;", 2, 2);
+        names();
+    }
+
+    /** Names that have a beginning or an end, or all letters but one, in common are different. */
+    private static void names() {
+        String[] names = {"azaz", "zzaz", "azbz", "azza", "azay", "aza", "zaz", "az", "a", "z", "cz", "ez", "iz", "qz",
+            "azazaz", "czazaz", "azczaz", "azazcz", "azazac", "azazab", "aaaaaa", "aaaaa", "zzzzzz", "zzzzz", "b", "p",
+            "q", "ap", "pa"};
+        for (String name : names) {
+            for (String other : names) {
+                if (!name.equals(other)) {
+                    right("var " + name + " 0 1;var " + other + " 0 1;less " + other + " " + name + ";", 2, 1);
+                    wrong("var " + name + " 0 1;less " + other + " " + name + ";", 3, name.length() + 14);
+                }
+            }
+        }
     }
 
     private static void wrongVariables() {
         wrong("vara0 4;", 1, 0);
+        wrong("xar a 0 4;", 1, 0);
+        wrong("va a 0 4;", 1, 0);
+        wrong("vas a 0 4;", 1, 0);
         wrong("var", 1, 3);
         wrong("var  ", 1, 5);
         wrong("var 1 0 1;", 1, 4);
@@ -182,6 +202,11 @@ public final class TextTest {
     private static void wrongConstraints() {
         wrong("less a b;", 3, 5);
         wrong(TWO + "lesser a b;", 1, 20);
+        wrong(TWO + "mess a b;", 1, 20);
+        wrong(TWO + "liffer a b;", 1, 20);
+        wrong(TWO + "sounts a value 0 0 1;", 1, 20);
+        wrong(TWO + "cindow 1 1 0 1 a;", 1, 20);
+        wrong(TWO + "counts a talue 0 0 1;", 3, 29);
         wrong(TWO + "less;", 1, 24);
         wrong(TWO + "less a;", 1, 26);
         wrong(TWO + "less a c;", 3, 27);

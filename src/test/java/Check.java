@@ -1,4 +1,6 @@
 import java.util.NoSuchElementException;
+import java.util.function.Consumer;
+import java.util.function.Supplier;
 
 /** What the tests share: compared answers, expected exceptions, and solvers made from a text. */
 final class Check {
@@ -8,6 +10,7 @@ final class Check {
     static final String ELEMENT = "NoSuchElementException";
     private static int checks = 0;
     private static int wrong = 0;
+    private static String current = "";
 
     /** A call that may throw. */
     interface Call {
@@ -57,9 +60,25 @@ final class Check {
         }
     }
 
-    private static void complain(String line) {
+    static void complain(String line) {
         wrong++;
-        System.out.println(line);
+        System.out.println(current + line);
+    }
+
+    /** Puts the name of a case before the lines that complain. */
+    static void begin(String name) {
+        current = name + ": ";
+    }
+
+    static int checks() {
+        return checks;
+    }
+
+    /** A call must throw, and what the object shows after it must be what a like object shows without the call. */
+    static void refused(String due, Supplier<SupportSolver> made, Consumer<SupportSolver> call) {
+        SupportSolver solver = made.get();
+        isThrown("a refused call", due, () -> call.accept(solver));
+        same("all that is shown after a refused call", Shown.all(solver), Shown.all(made.get()));
     }
 
     /** Ends a test: with exit code 1 if an answer was wrong. */

@@ -61,6 +61,10 @@ final class GrammarEdges {
         wrong(SEVEN + "less a b;".repeat(9), 4, 70 + 8 * 9);
     }
 
+    static void general_noneIsMinusOne() {
+        Check.is("NONE", SupportSolver.NONE, -1);
+    }
+
     static void general_valuesFromZeroToFour() {
         Check.is("domain", Check.solver("var a 0 4;").domain(0), 31);
         Check.is("0 alone", Check.solver("var a 0 0;").domain(0), 1);

@@ -273,6 +273,18 @@ final class LearnEdges {
         Check.same("reports", Shown.reports(enough), "7 0 7 7 0 0 7 7");
     }
 
+    static void promise31_aHundredDecisionsAreMadeAndNoMore() {
+        // Four and more, but at most three: propagation sees it only when three or four variables are fixed.
+        SupportSolver solver = Check.solver(ReportEdges.free(4)
+                + "counts a b c d e f g value 4 0 3;counts a b c d e f g value 4 4 7;");
+        Check.is("search", solver.search(100), 0);
+        Check.is("decisions", solver.report(7), 100);
+        Check.is("sets", solver.report(4), 12);
+        Check.is("not failed", solver.report(5), 0);
+        Check.is("another search", solver.search(1), 0);
+        Check.is("decisions", solver.report(7), 101);
+    }
+
     static void promise31_decisionsOfEarlierSearchesAreNotCountedAgain() {
         SupportSolver solver = Check.solver(ReportEdges.free(1));
         solver.decide(3, 1);

@@ -141,10 +141,13 @@ final class GrammarEdges {
             String text = "var a" + it + " 0 1;";
             if (it == ' ' || it == '\n' || it >= 'a' && it <= 'z') {
                 right(text);
+            } else if (it >= '5' && it <= '9') {
+                wrong(text, 2, 5);
+            } else if (it >= '1' && it <= '4') {
+                // The digit is the first number, so 0 is the second one.
+                wrong(text, 2, 7);
             } else {
-                // A digit is the first number of the variable, 0 its second one.
-                wrong(text, it > '4' && it <= '9' || it > '0' && it < '5' ? 2 : 1, it > '0' && it < '5' ? 7
-                        : it == '0' ? 9 : 5);
+                wrong(text, 1, it == '0' ? 9 : 5);
             }
         }
     }
